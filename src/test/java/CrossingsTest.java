@@ -117,6 +117,9 @@ final class CrossingsTest {
         Check.due("rower full", -4, x.rower(0, 2000, -1));
         Check.due("rower bad ahead of full", -2, x.rower(6, 2000, -1));
         Check.due("fourteen", 14, x.count(1));
+        Check.due("no fifteenth is ill", -2, x.ill(14, 1));
+        Check.due("no fifteenth is told of", -1000000, x.told(14, 9, 0));
+        Check.due("no fifteenth is a father", -2, x.rower(0, 2000, 14));
         Check.due("no crossings", -2, new StandingUp().rower(0, 2000, -1));
     }
 

@@ -8,6 +8,7 @@ final class TextsTest {
         feed();
         text();
         textFull();
+        textsApart();
         faults();
         faultsOfDepth();
         faultsAtEveryEnd();
@@ -73,6 +74,26 @@ final class TextsTest {
         }
     }
 
+    /** A text owes nothing to what was on the tape, or was read, ahead of it. */
+    private static void textsApart() {
+        String ones = "1" + "+1".repeat(55);
+        StandingUp x = Check.withCrossings(1);
+        x.rower(0, 3300, -1);
+        for (int i = 0; i < 5; i++) {
+            Check.due("a long fault", -100 - 131, Check.text(x, AHEAD + ones));
+            Check.due("a long text", 1 + i, Check.text(x, AHEAD + ones + "+" + i + ";"));
+        }
+        for (int i = 0; i < 5; i++) {
+            x.force(1 + i);
+            Check.due("a long turn", 56 + i, x.told(0, 8, 10));
+        }
+        StandingUp y = new StandingUp();
+        Check.due("three digits", -108, Check.text(y, "load 123"));
+        Check.due("two of them", -107, Check.text(y, "load 12"));
+        Check.due("a word", -110, Check.text(y, "load turns"));
+        Check.due("less of it", -105, Check.text(y, "load turn"));
+    }
+
     private static void fault(String text, int place) {
         Check.due("text " + text, -100 - place, Check.text(new StandingUp(), text));
     }
@@ -122,6 +143,10 @@ final class TextsTest {
         fault("load1;", 4 + 2);
         fault("loadtide;", 0);
         fault("loa 1;", 0);
+        fault("loadz 1;", 0);
+        fault("xoad 1;", 0);
+        fault("load xash;", 5);
+        fault("load zide;", 5);
         fault("loads 1;", 0);
         fault("load tides;", 5);
         fault("load tid;", 5);

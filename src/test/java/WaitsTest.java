@@ -122,22 +122,37 @@ final class WaitsTest {
 
     private static void tryAll(int minute, int back, int waiting, long waits, int bits) {
         int n = came.length;
-        if (minute >= n && waiting == 0) {
-            if (waits < bestWaits || waits == bestWaits && bits < bestBits) {
-                bestWaits = waits;
+        if (minute >= n) {
+            long all = waits + waitsBehind(minute, back, waiting);
+            if (all < bestWaits || all == bestWaits && bits < bestBits) {
+                bestWaits = all;
                 bestBits = bits;
             }
             return;
         }
-        int now = waiting + (minute < n ? came[minute] : 0);
+        int now = waiting + came[minute];
         boolean there = minute >= back;
         if (there && now > 0) {
             int left = Math.max(0, now - most);
-            tryAll(minute + 1, minute + trip, left, waits + left, minute < n ? bits | 1 << minute : bits);
+            tryAll(minute + 1, minute + trip, left, waits + left, bits | 1 << minute);
         }
         if (!there || now == 0 || minute < n - 1) {
             tryAll(minute + 1, back, now, waits + now, bits);
         }
+    }
+
+    /** Minute by minute behind the last one, till nobody waits. */
+    private static long waitsBehind(int from, int backFirst, int waitingFirst) {
+        int back = backFirst, waiting = waitingFirst;
+        long waits = 0;
+        for (int minute = from; waiting > 0; minute++) {
+            if (minute >= back) {
+                waiting = Math.max(0, waiting - most);
+                back = minute + trip;
+            }
+            waits += waiting;
+        }
+        return waits;
     }
 
     private static void manyAtRandom() {
