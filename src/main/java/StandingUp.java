@@ -126,7 +126,7 @@ public final class StandingUp {
             case 7: return r.toldPace();
             case 8: return r.may(hour) ? 1 : 0;
             case 9: return r.parts();
-            case 10: return dueTurn(r, hour);
+            case 10: return byRule(Texts.TURN, 0, r.age, hour, r.turns);
             default: return NOT_TOLD;
         }
     }
@@ -183,10 +183,6 @@ public final class StandingUp {
         names[Texts.HOUR] = hour;
         names[Texts.TURNS] = turns;
         return texts.value(part - Texts.LOAD, names);
-    }
-
-    private int dueTurn(Rower r, int hour) {
-        return byRule(Texts.TURN, 0, r.age, hour, r.turns);
     }
 
     private int priceOf(int heads, int hour) {
@@ -260,7 +256,7 @@ public final class StandingUp {
             if (!r.rowsAt(crossing) || !r.may(hour)) {
                 continue;
             }
-            int due = dueTurn(r, hour);
+            int due = byRule(Texts.TURN, 0, r.age, hour, r.turns);
             if (first == NONE || due > firstDue) {
                 second = first;
                 secondDue = firstDue;
@@ -890,6 +886,8 @@ public final class StandingUp {
         static final int HEADS = 0, TIDE = 1, WASH = 2, AGE = 3, HOUR = 4, TURNS = 5, NAMES = 6;
         static final int LOAD = 6, PRICE = 7, TURN = 8, OR = 9, AND = 10, NOT = 11, WORDS = 12;
         static final int NUMBER = 12, END = 13, WRONG = 14, NEGATE = 15;
+        // the levels of the grammar: each is made of those of the next one
+        static final int E = 0, BOTH = 1, NOT_OR_SUM = 2, SUM = 3, TERM = 4, ONE = 5;
 
         static final int MOST_TEXTS = 6, MOST_BYTES = 160, PARTS = 3, MOST_OPEN = 5, MOST_DIGITS = 4;
         static final int WORD_WIDTH = 5, MOST_STACK = 64;
@@ -935,7 +933,7 @@ public final class StandingUp {
             for (int part = 0; part < PARTS; part++) {
                 starts[count * PARTS + part] = length;
                 pass(LOAD + part);
-                readE(0);
+                read(E, 0);
                 pass(';');
                 write(STEP + ';');
             }
@@ -950,90 +948,64 @@ public final class StandingUp {
             return count - 1;
         }
 
-        private void readE(int open) {
-            readAnd(open);
-            for (int n = 0; n < MOST_BYTES && token == OR; n++) {
-                nextToken();
-                readAnd(open);
-                write(STEP + OR);
+        private void read(int level, int open) {
+            boolean opens = level == ONE ? token == '-' || token == '(' : level == NOT_OR_SUM && token == NOT;
+            if (opens) {
+                readOpening(open);
+            } else if (level == ONE) {
+                readOne();
+            } else {
+                readJoined(level, open);
             }
         }
 
-        private void readAnd(int open) {
-            readNot(open);
-            for (int n = 0; n < MOST_BYTES && token == AND; n++) {
-                nextToken();
-                readNot(open);
-                write(STEP + AND);
-            }
-        }
-
-        private void readNot(int open) {
-            if (token == NOT) {
-                if (opensOneMore(open)) {
-                    readNot(open + 1);
-                    write(STEP + NOT);
-                }
+        private void readOpening(int open) {
+            if (open >= MOST_OPEN) {
+                refuse();
                 return;
             }
-            readSum(open);
-            if (token == '<' || token == '=') {
-                int sign = token;
-                nextToken();
-                readSum(open);
-                write(STEP + sign);
+            int opening = token;
+            nextToken();
+            read(opening == NOT ? NOT_OR_SUM : opening == '-' ? ONE : E, open + 1);
+            if (opening == '(') {
+                pass(')');
+            } else {
+                write(STEP + (opening == NOT ? NOT : NEGATE));
             }
         }
 
-        private void readSum(int open) {
-            readTerm(open);
-            for (int n = 0; n < MOST_BYTES && (token == '+' || token == '-'); n++) {
-                int sign = token;
-                nextToken();
-                readTerm(open);
-                write(STEP + sign);
-            }
-        }
-
-        private void readTerm(int open) {
-            readOne(open);
-            for (int n = 0; n < MOST_BYTES && token == '*'; n++) {
-                nextToken();
-                readOne(open);
-                write(STEP + '*');
-            }
-        }
-
-        private void readOne(int open) {
+        private void readOne() {
             if (token == NUMBER) {
                 write(number);
                 nextToken();
             } else if (token >= 0 && token < NAMES) {
                 write(STEP + token);
                 nextToken();
-            } else if (token == '-') {
-                if (opensOneMore(open)) {
-                    readOne(open + 1);
-                    write(STEP + NEGATE);
-                }
-            } else if (token == '(') {
-                if (opensOneMore(open)) {
-                    readE(open + 1);
-                    pass(')');
-                }
             } else {
                 refuse();
             }
         }
 
-        /** Goes on behind a token that opens, unless too many are open. */
-        private boolean opensOneMore(int open) {
-            if (open >= MOST_OPEN) {
-                refuse();
-                return false;
+        private void readJoined(int level, int open) {
+            read(level + 1, open);
+            int most = level == NOT_OR_SUM ? 1 : MOST_BYTES;
+            for (int n = 0; n < most && joins(level); n++) {
+                int sign = token;
+                nextToken();
+                read(level + 1, open);
+                write(STEP + sign);
             }
-            nextToken();
-            return true;
+        }
+
+        private boolean joins(int level) {
+            switch (level) {
+                case E: return token == OR;
+                case BOTH: return token == AND;
+                case NOT_OR_SUM: return token == '<' || token == '=';
+                case SUM: return token == '+' || token == '-';
+                case TERM: return token == '*';
+                default: return false;
+            }
         }
 
         private void pass(int wanted) {
@@ -1139,7 +1111,7 @@ public final class StandingUp {
             if (sign == NOT || sign == NEGATE) {
                 if (depth > 0) {
                     int one = stack[depth - 1];
-                    stack[depth - 1] = sign == NEGATE ? -one : truth(one == 0);
+                    stack[depth - 1] = sign == NEGATE ? -one : one == 0 ? 1 : 0;
                 }
                 return depth;
             }
@@ -1152,18 +1124,14 @@ public final class StandingUp {
 
         private static int joined(int sign, int one, int other) {
             switch (sign) {
-                case OR: return truth(one != 0 || other != 0);
-                case AND: return truth(one != 0 && other != 0);
-                case '<': return truth(one < other);
-                case '=': return truth(one == other);
+                case OR: return one != 0 || other != 0 ? 1 : 0;
+                case AND: return one != 0 && other != 0 ? 1 : 0;
+                case '<': return one < other ? 1 : 0;
+                case '=': return one == other ? 1 : 0;
                 case '+': return one + other;
                 case '-': return one - other;
                 default: return one * other;
             }
-        }
-
-        private static int truth(boolean is) {
-            return is ? 1 : 0;
         }
     }
 
