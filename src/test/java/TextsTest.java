@@ -139,6 +139,15 @@ final class TextsTest {
         fault("load " + (char) 233 + ";", 5);
         fault("load 1" + (char) 160 + ";", 6);
         fault("load 1" + (char) 0 + ";", 6);
+        fault("load not x 1;", 9);
+        fault("load -x 1;", 6);
+        fault("load (x 1);", 6);
+        // nothing stands behind a text
+        String[] behind = {"?", "x", "5", "12345", "tide", "not", "load", ";", ")", "-"};
+        for (String token : behind) {
+            fault("load 1;price 1;turn 1;" + token, 22);
+            fault("load 1;price 1;turn 1; \n" + token + " ;", 24);
+        }
         // words and numbers are as long as can be
         fault("load1;", 4 + 2);
         fault("loadtide;", 0);
